@@ -177,7 +177,7 @@ public final class SilentReel {
     }
 
     public int agrees() {
-        return dayAgrees() ? 1 : 0;
+        return thisDay().agreesWith(scene.reel) ? 1 : 0;
     }
 
     public int self(int step, int place) {
@@ -188,7 +188,7 @@ public final class SilentReel {
         guess.copy(scene);
         for (int number = 0; number <= MOST_SHOWN; number++) {
             guess.reel.put(step, place, number);
-            trial.goTo(step, town, guess);
+            trial.goThrough(town, guess);
             if (trial.countIn(place, step) == number) {
                 bits |= 1 << number;
             }
@@ -311,8 +311,9 @@ public final class SilentReel {
         past.remember(scene);
         int agreeing = 0;
         for (int k = 0; k < n; k++) {
-            agreeing += dayAgrees() ? 1 : 0;
-            passDay();
+            Walk day = thisDay();
+            agreeing += day.agreesWith(scene.reel) ? 1 : 0;
+            pass(day);
         }
         return agreeing;
     }
@@ -325,7 +326,7 @@ public final class SilentReel {
         int rained = 0;
         for (int k = 0; k < n; k++) {
             rained += rainCuts() ? 1 : 0;
-            passDay();
+            pass(thisDay());
         }
         return rained;
     }
@@ -464,10 +465,6 @@ public final class SilentReel {
         return today;
     }
 
-    private boolean dayAgrees() {
-        return thisDay().trueOnes(scene.reel) == scene.reel.count;
-    }
-
     private boolean agreesWithout(int bits) {
         guess.copy(scene);
         for (int k = scene.reel.count - 1; k >= 0; k--) {
@@ -494,8 +491,7 @@ public final class SilentReel {
         todayStands = false;
     }
 
-    private void passDay() {
-        Walk day = thisDay();
+    private void pass(Walk day) {
         past.keep(scene, day.trueOnes(scene.reel));
         scene.passInto(day);
         todayStands = false;
@@ -934,7 +930,7 @@ public final class SilentReel {
         static final int CHOICE = -21;
 
         static final int KNOWN_COUNT = 7;
-        private static final int LIMIT = 1000000;
+        static final int LIMIT = 1000000;
         /** Eight levels of brackets leave five results each waiting at the most. */
         private static final int WAITING = 64;
 
@@ -968,19 +964,20 @@ public final class SilentReel {
                     results[top - 1] = results[top - 1] == 1 ? results[top] : results[top + 1];
                 } else if (top >= 2) {
                     top--;
-                    results[top - 1] = joined(code, results[top - 1], results[top]);
+                    long result = joined(code, results[top - 1], results[top]);
+                    results[top - 1] = (int) Math.max(-LIMIT, Math.min(LIMIT, result));
                 }
             }
             return top > 0 ? results[0] : 0;
         }
 
-        private static int joined(int code, int a, int b) {
+        private static long joined(int code, long a, long b) {
             switch (code) {
-                case ADD: return bounded((long) a + b);
-                case SUBTRACT: return bounded((long) a - b);
-                case MULTIPLY: return bounded((long) a * b);
-                case DIVIDE: return b == 0 ? 0 : bounded(Math.floorDiv(a, b));
-                case REST: return b == 0 ? 0 : bounded(Math.floorMod(a, b));
+                case ADD: return a + b;
+                case SUBTRACT: return a - b;
+                case MULTIPLY: return a * b;
+                case DIVIDE: return b == 0 ? 0 : Math.floorDiv(a, b);
+                case REST: return b == 0 ? 0 : Math.floorMod(a, b);
                 case LEAST: return Math.min(a, b);
                 case MOST: return Math.max(a, b);
                 case BELOW: return a < b ? 1 : 0;
@@ -990,10 +987,6 @@ public final class SilentReel {
                 case EITHER: return a | b;
                 default: return 0;
             }
-        }
-
-        private static int bounded(long result) {
-            return (int) Math.max(-LIMIT, Math.min(LIMIT, result));
         }
     }
 
@@ -1009,19 +1002,12 @@ public final class SilentReel {
             this.tape = tape;
         }
 
-        boolean readStays(Formula into) {
+        void readInto(Formula into, boolean ofGoes) {
             formula = into;
-            inGoes = false;
-            return test(0);
+            inGoes = ofGoes;
         }
 
-        boolean readGoes(Formula into) {
-            formula = into;
-            inGoes = true;
-            return sum(0);
-        }
-
-        private boolean test(int open) {
+        boolean test(int open) {
             boolean good = both(open);
             for (int k = 0; k < TAPE_BYTES && good && tape.isOwn(Tape.OR); k++) {
                 tape.advance();
@@ -1070,7 +1056,7 @@ public final class SilentReel {
             return tape.isSign('=') ? Formula.EQUAL : 0;
         }
 
-        private boolean sum(int open) {
+        boolean sum(int open) {
             boolean good = product(open);
             for (int k = 0; k < TAPE_BYTES && good && (tape.isSign('+') || tape.isSign('-')); k++) {
                 int code = tape.isSign('+') ? Formula.ADD : Formula.SUBTRACT;
@@ -1201,8 +1187,12 @@ public final class SilentReel {
                 case Tape.PERSON: return dweller();
                 case Tape.WATCH: return watcher();
                 case Tape.FRAME: return shownFrame();
-                case Tape.STAYS: return begins(Math.min(town.stays.size, 1), 1) && formulas.readStays(town.stays);
-                case Tape.GOES: return begins(Math.min(town.goes.size, 1), 1) && formulas.readGoes(town.goes);
+                case Tape.STAYS:
+                    formulas.readInto(town.stays, false);
+                    return begins(town.stays.size, 1) && formulas.test(0);
+                case Tape.GOES:
+                    formulas.readInto(town.goes, true);
+                    return begins(town.goes.size, 1) && formulas.sum(0);
                 case Tape.RAIN: return rain();
                 default: return tape.misplaced();
             }
@@ -1345,26 +1335,23 @@ public final class SilentReel {
         private Scene scene;
 
         void goThrough(Town in, Scene from) {
-            goTo(STEPS, in, from);
-        }
-
-        void goTo(int last, Town in, Scene from) {
             begin(in, from);
-            for (int step = 1; step <= last; step++) {
-                go(step);
+            for (int step = 1; step <= STEPS; step++) {
+                for (int person = 0; person < in.peopleCount; person++) {
+                    put(person, step, goal(person, step));
+                }
             }
         }
 
         /** Ends at the first frame that is not true: most trials of many end so. */
         boolean agreesIn(Town in, Scene from) {
             begin(in, from);
-            Reel reel = from.reel;
             for (int step = 1; step <= STEPS; step++) {
-                go(step);
-                for (int k = 0; k < reel.count; k++) {
-                    if (reel.steps[k] == step && !isTrue(reel, k)) {
-                        return false;
-                    }
+                for (int person = 0; person < in.peopleCount; person++) {
+                    put(person, step, goal(person, step));
+                }
+                if (!isTrueAt(step, from.reel)) {
+                    return false;
                 }
             }
             return true;
@@ -1389,12 +1376,6 @@ public final class SilentReel {
             people[MOST_PLACES * step + place] |= 1 << person;
         }
 
-        private void go(int step) {
-            for (int person = 0; person < town.peopleCount; person++) {
-                put(person, step, goal(person, step));
-            }
-        }
-
         private int goal(int person, int step) {
             int own = spotOf(person, step - 1);
             know(Formula.KIND, town.kinds[person]);
@@ -1407,7 +1388,7 @@ public final class SilentReel {
 
         private int bestPlace(int person, int own, int step) {
             int best = own;
-            int most = Integer.MIN_VALUE;
+            int most = -Formula.LIMIT - 1;
             for (int place = 0; place < town.placeCount; place++) {
                 if (!town.reaches(own, place)) {
                     continue;
@@ -1449,12 +1430,25 @@ public final class SilentReel {
             return countIn(reel.places[k], reel.steps[k]) == reel.numbers[k];
         }
 
+        private boolean isTrueAt(int step, Reel reel) {
+            for (int k = 0; k < reel.count; k++) {
+                if (reel.steps[k] == step && !isTrue(reel, k)) {
+                    return false;
+                }
+            }
+            return true;
+        }
+
         int trueOnes(Reel reel) {
             int count = 0;
             for (int k = 0; k < reel.count; k++) {
                 count += isTrue(reel, k) ? 1 : 0;
             }
             return count;
+        }
+
+        boolean agreesWith(Reel reel) {
+            return trueOnes(reel) == reel.count;
         }
 
         boolean isNeverEntered(int place) {

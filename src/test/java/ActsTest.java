@@ -125,6 +125,7 @@ public final class ActsTest {
             Check.due("seed(" + seed + ")", x.seed(seed), true);
             boolean rains = drawn(seed, 1) / 64 % 100 < 50;
             int which = drawn(seed, 2) / 64 % 3;
+            Check.due("where(0, 3) with all three", x.where(0, 3), 1);
             Check.due("chance(5) by seed " + seed, x.chance(5), rains ? 1 : 0);
             Check.due("has(10)", x.has(10), drawn(seed, rains ? 6 : 5));
             Check.due("kept(0, 1)", x.kept(0, 1), rains ? 2 : 3);
@@ -213,10 +214,13 @@ public final class ActsTest {
         Check.due("watch(1, 2)", x.watch(1, 2), false);
         Check.due("watch(1, -1)", x.watch(1, -1), false);
         Check.due("watch(1, MAX)", x.watch(1, Integer.MAX_VALUE), false);
+        Check.due("watch(0, 2) of one who watches", x.watch(0, 2), false);
+        Check.due("watch(0, -1) of one who watches", x.watch(0, -1), false);
+        Check.due("person(0, 2) stays", x.person(0, 2), 1);
         Check.due("watch(2, 1)", x.watch(2, 1), false);
         Check.due("watch(-1, 1)", x.watch(-1, 1), false);
         Check.due("watch(32, 1)", x.watch(32, 1), false);
-        Check.due("status(3)", x.status(3), 9);
+        Check.due("status(3)", x.status(3), 11);
         Check.due("has(9)", x.has(9), 2);
     }
 

@@ -74,6 +74,11 @@ public final class AheadTest {
         Check.due("where(0, 1)", x.where(0, 1), 1);
         Check.due("where(0, 8)", x.where(0, 8), 0);
         Check.due("meet(0, 1)", x.meet(0, 1), 1);
+        String two = TWO + "person p at a kind 1;person q at b kind 2;";
+        Check.due("meet(0, 1) behind step 1 alone", Check.of(two
+                + "stays kind=2 or step>2;goes if(step=1,far,0-far);").meet(0, 1), 1);
+        Check.due("meet(0, 1) behind step 8 alone", Check.of(two
+                + "stays kind=2 or step<8 or day>4;goes if(day=4,far,0-far);").meet(0, 1), 5);
         SilentReel apart = Check.of(TWO + "person p at a kind 1;person q at a kind 2;stays kind=2;"
                 + "goes if(day=0,far,0-far);");
         Check.due("meet(0, 1) of those who part at once", apart.meet(0, 1), -1);

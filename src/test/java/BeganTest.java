@@ -137,6 +137,10 @@ public final class BeganTest {
         telling(Check.of(two + "stays kind=1;"), 7, 1, 1, 1);
         telling(Check.of(two + "stays kind=1 or step<4;"), 7, 4, 1, 1);
         telling(Check.of(two + "stays kind=1 or step<8;"), 7, 8, 1, 1);
+        // six in a, or five: the row of what is alike must have room for six
+        SilentReel six = Check.of(ROW + "person p at a kind 1;person q at a kind 1;person r at a kind 1;"
+                + "person s at a kind 1;person t at a kind 1;person u at a kind 1;stays all;");
+        telling(six, 7, 1, 0, 2);
         SilentReel late = Check.of(two + "stays kind=1 or step<4;");
         Check.put(late, 1, 0, 0);
         late.see();

@@ -174,6 +174,9 @@ public final class DayTest {
         Check.due("empty(): b is gone to at step 8", last.empty(), 4);
         last.send(0, 2);
         Check.due("empty() when he is in c", last.empty(), 3);
+        SilentReel first = Check.of("place a;place b;place c;road a to b;person p at a kind 1;"
+                + "stays step>2;goes if(step=1,far,0-far);");
+        Check.due("empty(): b is gone to at step 1 alone", first.empty(), 4);
         Check.due("empty() of nobody", Check.of("place a;place b;").empty(), 3);
         Check.due("empty() of no place", new SilentReel().empty(), 0);
     }

@@ -21,6 +21,7 @@ public final class FaultTest {
         formulas();
         whatStays();
         whatGoes();
+        nothingOfOldTowns();
         Check.finish();
     }
 
@@ -134,6 +135,8 @@ public final class FaultTest {
         good("place abcdef;", 1);
         marked("place abcdef|g;", 1);
         marked("place abcdef|gh", 1);
+        marked("place abcdef|a;", 1);
+        marked("goes 1234|0;", 1);
         marked("person|s;", 1);
         marked("placea|bc d;", 1);
         marked("goes 1 abcdef|ghi;", 1);
@@ -158,6 +161,8 @@ public final class FaultTest {
         marked("stays 1=1|or all;", 1);
         marked("stays 1=1 or|1=1;", 1);
         marked("place a|1;", 1);
+        marked("rain|12345;", 1);
+        marked("place a;frame 1|abcdefg 1;", 1);
         good("stays(1)=(1)or(2)=(2);", 1);
         good("goes(1);", 1);
         good("stays[all]and[all];", 1);
@@ -253,6 +258,16 @@ public final class FaultTest {
         good("goes min(1,2)+min(1,2)+min(1,2)+min(1,2)+min(1,2)+min(1,2)+min(1,2)+min(1,2);", 1);
         marked("goes if(not not not not not not |not all,1,2);", 5);
         good("goes if(not not not not not not all,1,2);", 1);
+        good("goes min(((((((1)))))),((((((1)))))));", 1);
+        marked("goes min(((((((|(1", 5);
+        marked("goes min(1,((((((|(1", 5);
+        marked("goes max(1,((((((|(1", 5);
+        good("goes if(((((((1))))))=1,((((((1)))))),((((((1)))))));", 1);
+        marked("goes if(((((((|(1", 5);
+        marked("goes if(all,((((((|(1", 5);
+        marked("goes if(all,1,((((((|(1", 5);
+        marked("goes if([[[[[[|[all", 5);
+        good("goes ((1)+((2))*min((1),2))+((((((3))))));", 1);
         marked("goes (((((((|[", 1);
         marked("goes (((((((1|(", 1);
         marked("goes (((((((|not", 1);
@@ -351,6 +366,27 @@ public final class FaultTest {
         Check.due("has(10)", x.has(10), 77);
         Check.due("letter(0, 0, 0)", x.letter(0, 0, 0), 1);
         Check.due("far(0, 1)", x.far(0, 1), 1);
+    }
+
+    /** Towns told one behind the other, the first with all that the third is without. */
+    private static void nothingOfOldTowns() {
+        SilentReel x = Check.of(AHEAD + "watch p;frame 1 a 1;stays all;rain 100;");
+        Check.due("where(0, 8) of the first", x.where(0, 8), 0);
+        Check.town(x, "place a;place b;place c;place d;road c to b;person q at c kind 1;stays all;goes far;");
+        Check.due("where(0, 8) of the second", x.where(0, 8), 2);
+        Check.due("far(2, 1) of the second", x.far(2, 1), 1);
+        Check.due("far(0, 1) of the second", x.far(0, 1), -1);
+        Check.town(x, "place a;place b;road b to a;person p at b kind 0;frame 1 a 1;frame 2 a 0;");
+        Check.due("has(5) of the third", x.has(5), 0);
+        Check.due("where(0, 0) of the third", x.where(0, 0), 1);
+        Check.due("where(0, 1) of the third", x.where(0, 1), 0);
+        Check.due("chance(1) of the third: no rain", x.chance(1), 0);
+        Check.town(x, "place c;place a;place b;road a to b;person p at a kind 0;");
+        Check.due("where(0, 1) of the fourth: no goes", x.where(0, 1), 1);
+        Check.due("letter(0, 0, 0) of the fourth", x.letter(0, 0, 0), 3);
+        SilentReel full = Check.of("place a;place b;road a to b;" + "rain 1;".repeat(77));
+        Check.due("far(0, 1) with 80 statements", full.far(0, 1), 1);
+        Check.due("far(0, 0) with 80 statements", full.far(0, 0), 0);
     }
 
     private static void whatGoes() {

@@ -82,6 +82,9 @@ public final class ImageTest {
         x.days(3);
         Check.put(x, 1, 0, 1);
         x.see();
+        Check.due("where(1, 4) ahead of it", x.where(1, 4), 2);
+        Check.due("later(0, 2) ahead of it", x.later(0, 2), 0);
+        Check.due("crowd() ahead of it", x.crowd(), 0);
         int[] image = proved(2, 5, 1, 1, 0, 0, 2, 3, 2, 4, 4, 0, 1);
         Check.due("on()", onBy(x, image), true);
         Check.due("has(3)", x.has(3), 517);
@@ -116,6 +119,11 @@ public final class ImageTest {
         Check.due("on() of day 999", onBy(x, proved(3, 231, 2, 1, 2, 1, 0)), true);
         Check.due("has(3)", x.has(3), 999);
         Check.due("days(1)", x.days(1), -1);
+        for (int day : new int[] {255, 256, 257, 511, 512, 767, 768, 998}) {
+            onBy(x, proved(day / 256, day % 256, 2, 1, 2, 1, 0));
+            Check.due("has(3) of day " + day, x.has(3), day);
+            written(x, day / 256, day % 256, 2, 1, 2, 1, 0);
+        }
         Check.due("on() of eight frames", onBy(x, proved(0, 0, 0, 0, 0, 0, 8, 1, 0, 0, 1, 1, 6, 1, 2, 3, 8, 0, 0,
                 8, 1, 0, 8, 2, 0, 5, 0, 0, 6, 0, 0)), true);
         Check.due("has(4)", x.has(4), 8);

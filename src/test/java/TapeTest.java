@@ -5,6 +5,7 @@ public final class TapeTest {
         feed();
         order();
         end();
+        bytesBehindTheEnd();
         tapeGoes();
         Check.finish();
     }
@@ -75,6 +76,28 @@ public final class TapeTest {
         x.feed(0, 0, 0, 0, 0);
         Check.due("end(0)", x.end(0), true);
         Check.due("feed behind end(0)", x.feed(0, 0, 0, 0, 0), 20);
+    }
+
+    /** What was fed behind the end is no part of the text. */
+    private static void bytesBehindTheEnd() {
+        SilentReel x = new SilentReel();
+        Check.put(x, "staysx");
+        x.end(5);
+        Check.due("town() of stays", x.town(), -1);
+        Check.due("its place", x.fault(1), 5);
+        Check.put(x, "rain 1010");
+        x.end(8);
+        Check.due("town() of rain 101", x.town(), -1);
+        Check.due("its fault", x.fault(0), 4);
+        Check.put(x, "rain 1000");
+        x.end(8);
+        Check.due("town() of rain 100", x.town(), -1);
+        Check.due("its fault", x.fault(0), 1);
+        Check.due("its place", x.fault(1), 8);
+        Check.put(x, "rain 1;;");
+        x.end(7);
+        Check.due("town() of rain 1;", x.town(), 1);
+        Check.due("town() of nothing", x.town(), 0);
     }
 
     private static void tapeGoes() {
