@@ -7,6 +7,7 @@ public final class ActsTest {
         days();
         daysRefused();
         chance();
+        chanceOfNought();
         chanceOfMany();
         chanceUndone();
         show();
@@ -115,6 +116,21 @@ public final class ActsTest {
                     .mod(java.math.BigInteger.ONE.shiftLeft(31));
         }
         return x.intValueExact();
+    }
+
+    /** A draw of 0 is below 1, but not below 0, which the rain is if it is not told. */
+    private static void chanceOfNought() {
+        int seed = 0;
+        while (drawn(seed, 1) / 64 % 100 != 0) {
+            seed++;
+        }
+        String[] rains = {"", "rain 0;", "rain 1;", "rain 50;rain 0;", "rain 0;rain 1;"};
+        int[] due = {0, 0, 1, 0, 1};
+        for (int k = 0; k < rains.length; k++) {
+            SilentReel x = Check.of(TWO + "frame 1 a 1;" + rains[k]);
+            x.seed(seed);
+            Check.due("chance(1) by a draw of 0, " + rains[k], x.chance(1), due[k]);
+        }
     }
 
     /** A cut frame is not seen by those who watch, and the reel is empty on the days behind the first. */

@@ -108,6 +108,7 @@ public final class DayTest {
         SilentReel x = Check.of("place a;place b;person p at a kind 1;stays all;");
         Check.due("cuts() without frames", x.cuts(), 0);
         x.show(1, 0, 1);
+        Check.due("cuts() of none: it agrees", x.cuts(), 0);
         x.show(2, 0, 0);
         x.show(3, 0, 1);
         x.show(4, 1, 1);

@@ -137,6 +137,8 @@ public final class FaultTest {
         marked("place abcdef|gh", 1);
         marked("place abcdef|a;", 1);
         marked("goes 1234|0;", 1);
+        marked("rain 1234|0;", 1);
+        marked("place a;road abcdef|a to a;", 1);
         marked("person|s;", 1);
         marked("placea|bc d;", 1);
         marked("goes 1 abcdef|ghi;", 1);

@@ -83,8 +83,8 @@ public final class ImageTest {
         Check.put(x, 1, 0, 1);
         x.see();
         Check.due("where(1, 4) ahead of it", x.where(1, 4), 2);
-        Check.due("later(0, 2) ahead of it", x.later(0, 2), 0);
         Check.due("crowd() ahead of it", x.crowd(), 0);
+        Check.due("later(0, 2) ahead of it", x.later(0, 2), 0);
         int[] image = proved(2, 5, 1, 1, 0, 0, 2, 3, 2, 4, 4, 0, 1);
         Check.due("on()", onBy(x, image), true);
         Check.due("has(3)", x.has(3), 517);
