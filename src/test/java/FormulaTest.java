@@ -16,119 +16,108 @@ public final class FormulaTest {
         Check.finish();
     }
 
-    /** He stays in a where the test holds, else he goes to b, which is farther from where he began. */
-    private static void holds(String test, boolean due) {
-        SilentReel x = Check.of("place a;place b;road a to b;person p at a kind 3;stays " + test + ";goes far;");
-        Check.due(test, x.where(0, 1) == 0, due);
-    }
-
-    private static void holds(String test) {
-        holds(test, true);
-        holds("not " + test, false);
-    }
-
     private static void sums() {
-        holds("2+3*4=14");
-        holds("2*3+4=10");
-        holds("(2+3)*4=20");
-        holds("10-4-3=3");
-        holds("10-(4-3)=9");
-        holds("10-4+3=9");
-        holds("100/10/5=2");
-        holds("100/10*5=50");
-        holds("100*10/5=200");
-        holds("17%10%4=3");
-        holds("20/3*3=18");
-        holds("9999+1=100*100");
-        holds("0007=7");
-        holds("min(3,2)=2");
-        holds("min(2,3)=2");
-        holds("max(3,2)=3");
-        holds("max(2,3)=3");
-        holds("min(0-3,2)=0-3");
-        holds("min(1+1,2*2)+max(1,5)*2=12");
-        holds("if(1<2,7,8)=7");
-        holds("if(2<1,7,8)=8");
-        holds("if(all,if(not all,1,2),3)=2");
-        holds("if(not all,if(not all,1,2),3)=3");
-        holds("if(1=1 and 1=2,1,0)+if(1=1 or 1=2,2,0)=2");
-        holds("kind=3");
-        holds("kind*kind=9");
+        Texts.holds("2+3*4=14");
+        Texts.holds("2*3+4=10");
+        Texts.holds("(2+3)*4=20");
+        Texts.holds("10-4-3=3");
+        Texts.holds("10-(4-3)=9");
+        Texts.holds("10-4+3=9");
+        Texts.holds("100/10/5=2");
+        Texts.holds("100/10*5=50");
+        Texts.holds("100*10/5=200");
+        Texts.holds("17%10%4=3");
+        Texts.holds("20/3*3=18");
+        Texts.holds("9999+1=100*100");
+        Texts.holds("0007=7");
+        Texts.holds("min(3,2)=2");
+        Texts.holds("min(2,3)=2");
+        Texts.holds("max(3,2)=3");
+        Texts.holds("max(2,3)=3");
+        Texts.holds("min(0-3,2)=0-3");
+        Texts.holds("min(1+1,2*2)+max(1,5)*2=12");
+        Texts.holds("if(1<2,7,8)=7");
+        Texts.holds("if(2<1,7,8)=8");
+        Texts.holds("if(all,if(not all,1,2),3)=2");
+        Texts.holds("if(not all,if(not all,1,2),3)=3");
+        Texts.holds("if(1=1 and 1=2,1,0)+if(1=1 or 1=2,2,0)=2");
+        Texts.holds("kind=3");
+        Texts.holds("kind*kind=9");
     }
 
     private static void bounds() {
-        holds("9999*9999=1000*1000");
-        holds("0-9999*9999=0-1000*1000");
-        holds("9999*9999-1=1000*1000-1");
-        holds("9999*(0-9999)+1=1-1000*1000");
-        holds("9999*9999*9999=1000*1000");
-        holds("1000*1000+1=1000*1000");
-        holds("1000*1000+1-1=1000*1000-1");
-        holds("0-1000*1000-1+1=1-1000*1000");
-        holds("1000*999+1000=1000*1000");
-        holds("9999*9999*(0-9999*9999)=0-1000*1000");
-        holds("1000*1000/(0-1)=0-1000*1000");
-        holds("(0-1000*1000)%(1000*1000-1)=1000*999+998");
+        Texts.holds("9999*9999=1000*1000");
+        Texts.holds("0-9999*9999=0-1000*1000");
+        Texts.holds("9999*9999-1=1000*1000-1");
+        Texts.holds("9999*(0-9999)+1=1-1000*1000");
+        Texts.holds("9999*9999*9999=1000*1000");
+        Texts.holds("1000*1000+1=1000*1000");
+        Texts.holds("1000*1000+1-1=1000*1000-1");
+        Texts.holds("0-1000*1000-1+1=1-1000*1000");
+        Texts.holds("1000*999+1000=1000*1000");
+        Texts.holds("9999*9999*(0-9999*9999)=0-1000*1000");
+        Texts.holds("1000*1000/(0-1)=0-1000*1000");
+        Texts.holds("(0-1000*1000)%(1000*1000-1)=1000*999+998");
     }
 
     private static void division() {
-        holds("7/2=3");
-        holds("(0-7)/2=0-4");
-        holds("7/(0-2)=0-4");
-        holds("(0-7)/(0-2)=3");
-        holds("(0-6)/2=0-3");
-        holds("7%2=1");
-        holds("(0-7)%2=1");
-        holds("7%(0-2)=0-1");
-        holds("(0-7)%(0-2)=0-1");
-        holds("(0-6)%3=0");
-        holds("7/0=0");
-        holds("7%0=0");
-        holds("0/0=0");
-        holds("(0-7)/0=0");
-        holds("(0-7)%(1-1)=0");
-        holds("5/9=0");
-        holds("(0-5)/9=0-1");
+        Texts.holds("7/2=3");
+        Texts.holds("(0-7)/2=0-4");
+        Texts.holds("7/(0-2)=0-4");
+        Texts.holds("(0-7)/(0-2)=3");
+        Texts.holds("(0-6)/2=0-3");
+        Texts.holds("7%2=1");
+        Texts.holds("(0-7)%2=1");
+        Texts.holds("7%(0-2)=0-1");
+        Texts.holds("(0-7)%(0-2)=0-1");
+        Texts.holds("(0-6)%3=0");
+        Texts.holds("7/0=0");
+        Texts.holds("7%0=0");
+        Texts.holds("0/0=0");
+        Texts.holds("(0-7)/0=0");
+        Texts.holds("(0-7)%(1-1)=0");
+        Texts.holds("5/9=0");
+        Texts.holds("(0-5)/9=0-1");
     }
 
     private static void tests() {
-        holds("all");
-        holds("1<2");
-        holds("2<1", false);
-        holds("1<1", false);
-        holds("2>1");
-        holds("1>2", false);
-        holds("1>1", false);
-        holds("1=1");
-        holds("1=2", false);
-        holds("0-1<0");
-        holds("1=1 or 1=1 and 1=2", true);
-        holds("1=2 and 1=1 or 1=1", true);
-        holds("1=2 and [1=1 or 1=1]", false);
-        holds("[1=1 or 1=1] and 1=2", false);
-        holds("1=2 or 1=2 or 1=1", true);
-        holds("1=2 or 1=2", false);
-        holds("all and all and all", true);
-        holds("all and all and 1=2", false);
-        holds("all and 1=2", false);
-        holds("not all or all", true);
-        holds("not all and 1=2 or all", true);
-        holds("not 1=2 and 1=2", false);
-        holds("not not all", true);
-        holds("not not not all", false);
-        holds("not [not all or not all]", true);
-        holds("2 > 1 and 1 < 2 and kind = 3", true);
+        Texts.holds("all");
+        Texts.holds("1<2");
+        Texts.holds("2<1", false);
+        Texts.holds("1<1", false);
+        Texts.holds("2>1");
+        Texts.holds("1>2", false);
+        Texts.holds("1>1", false);
+        Texts.holds("1=1");
+        Texts.holds("1=2", false);
+        Texts.holds("0-1<0");
+        Texts.holds("1=1 or 1=1 and 1=2", true);
+        Texts.holds("1=2 and 1=1 or 1=1", true);
+        Texts.holds("1=2 and [1=1 or 1=1]", false);
+        Texts.holds("[1=1 or 1=1] and 1=2", false);
+        Texts.holds("1=2 or 1=2 or 1=1", true);
+        Texts.holds("1=2 or 1=2", false);
+        Texts.holds("all and all and all", true);
+        Texts.holds("all and all and 1=2", false);
+        Texts.holds("all and 1=2", false);
+        Texts.holds("not all or all", true);
+        Texts.holds("not all and 1=2 or all", true);
+        Texts.holds("not 1=2 and 1=2", false);
+        Texts.holds("not not all", true);
+        Texts.holds("not not not all", false);
+        Texts.holds("not [not all or not all]", true);
+        Texts.holds("2 > 1 and 1 < 2 and kind = 3", true);
     }
 
     private static void brackets() {
-        holds("(((((((1)))))))=1", true);
-        holds("[[[[[[[all]]]]]]]", true);
-        holds("not not not not not not all", true);
-        holds("if(1=1,if(1=1,if(1=1,if(1=1,if(1=1,if(1=1,if(1+1*1=2 and 2=2 or 3=3,5,6),0),0),0),0),0),0)=5", true);
-        holds("1+1*if(all and 1=1+1*if(all and 1=1+1*if(all and 1=1+1*if(all and 1=1+1*if(all and 1=1+1*if(all and 1=1"
+        Texts.holds("(((((((1)))))))=1", true);
+        Texts.holds("[[[[[[[all]]]]]]]", true);
+        Texts.holds("not not not not not not all", true);
+        Texts.holds("if(1=1,if(1=1,if(1=1,if(1=1,if(1=1,if(1=1,if(1+1*1=2 and 2=2 or 3=3,5,6),0),0),0),0),0),0)=5", true);
+        Texts.holds("1+1*if(all and 1=1+1*if(all and 1=1+1*if(all and 1=1+1*if(all and 1=1+1*if(all and 1=1+1*if(all and 1=1"
                 + "+1*if(1=2 or all and 1=1+1*0,0,1),0,1),0,1),0,1),0,1),0,1),0,1)=1", true);
-        holds("min(1,min(2,min(3,min(4,min(5,min(6,min(8,7)))))))=1", true);
-        holds("max(1,max(2,max(3,max(4,max(5,max(6,max(8,7)))))))=8", true);
+        Texts.holds("min(1,min(2,min(3,min(4,min(5,min(6,min(8,7)))))))=1", true);
+        Texts.holds("max(1,max(2,max(3,max(4,max(5,max(6,max(8,7)))))))=8", true);
     }
 
     private static void path(SilentReel x, int person, int... due) {
