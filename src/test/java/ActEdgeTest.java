@@ -15,6 +15,7 @@ public final class ActEdgeTest {
         chanceBeyondTheLast();
         drawBelowRain();
         drawOfTheFrames();
+        rainBehindAQuestion();
         drawWithoutFrames();
         drawWrapsAround();
         keptLessTheCut();
@@ -233,6 +234,17 @@ public final class ActEdgeTest {
         Check.due("has(10): 41 draws", one.has(10), drawn(1, 41));
     }
 
+    /** The day is gone through without the frame that was cut, though it was asked about ahead of the rain. */
+    private static void rainBehindAQuestion() {
+        SilentReel x = Check.of("place a;place b;road a to b;person p at a kind 1;watch p;rain 100;frame 8 b 1;"
+                + "goes if(shown=1,5,0);");
+        Check.due("where(0, 8) ahead of the rain", x.where(0, 8), 1);
+        Check.due("chance(1)", x.chance(1), 1);
+        Check.due("person(0, 0) behind the rain", x.person(0, 0), 0);
+        x.undo();
+        Check.due("where(0, 8) when it is undone", x.where(0, 8), 1);
+    }
+
     /** "if there are FRAMES": without any there is no second draw */
     private static void drawWithoutFrames() {
         SilentReel x = Check.of(TWO + "rain 100;");
@@ -350,6 +362,14 @@ public final class ActEdgeTest {
             Check.due("frame(7, 0)", x.frame(7, 0), -1);
             Check.due("cut(7) of seven", x.cut(7), false);
             Check.due("has(9)", x.has(9), 1);
+        }
+        SilentReel x = Check.of(TWO + "frame 1 a 1;frame 2 b 2;frame 3 a 3;");
+        x.cut(0);
+        int[][] due = {{2, 1, 2}, {3, 0, 3}};
+        for (int k = 0; k < 2; k++) {
+            for (int what = 0; what <= 2; what++) {
+                Check.due("frame(" + k + ", " + what + ") one place ahead", x.frame(k, what), due[k][what]);
+            }
         }
     }
 
@@ -482,6 +502,7 @@ public final class ActEdgeTest {
             Shot.asked("undo() of act " + k, x, 1, y -> {
                 int ahead = y.has(9);
                 act.on(y);
+                y.agrees();
                 Check.due("has(9) behind the act", y.has(9), ahead + 1);
                 boolean undone = y.undo();
                 y.seed(seed);

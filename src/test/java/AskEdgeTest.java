@@ -629,6 +629,7 @@ public final class AskEdgeTest {
         telling(Check.of(TWO + "person p at a kind 1;"), 3, 1, 0, 2);
         telling(Check.of(ROW + "person p at a kind 1;stays all;"), 7, 1, 0, 2);
         telling(Check.of(Texts.SEVEN + "person p at a kind 1;stays all;"), 127, 1, 0, 6);
+        telling(Check.of(Texts.SIX + "place b;stays all;"), 3, 1, 0, 1);
         // from c he comes to b, and a step behind it to a: then nothing tells where he began
         telling(Check.of(ROW + "person p at a kind 1;"), 7, 1, 0, 2);
         // q, who goes where p is, tells it behind step 8 alone, in b

@@ -12,6 +12,7 @@ public final class FormulaEdgeTest {
         belowTheLeast();
         eachResult();
         allFromTheLeft();
+        leastAndMost();
         firstSumWhereItHolds();
         signs();
         heTooIsHere();
@@ -137,6 +138,20 @@ public final class FormulaEdgeTest {
         Texts.holds("1000*1000+1-1=" + NEARLY);
         Texts.holds("1-1+1000*1000=1000*1000");
         Texts.holds("2+3*4-6/2=11");
+    }
+
+    /** min and max of unlike ones, in both orders, of like ones, and at the bounds */
+    private static void leastAndMost() {
+        Texts.holds("min(1,2)=1");
+        Texts.holds("min(2,1)=1");
+        Texts.holds("min(2,2)=2");
+        Texts.holds("max(1,2)=2");
+        Texts.holds("max(2,1)=2");
+        Texts.holds("max(2,2)=2");
+        Texts.holds("min(0,0-1)=0-1");
+        Texts.holds("max(0-2,0-1)=0-1");
+        Texts.holds("min(9999*9999,0-9999*9999)=0-1000*1000");
+        Texts.holds("max(9999*9999,0-9999*9999)=1000*1000");
     }
 
     /** "the first SUM where the TEST holds, else the second one" */

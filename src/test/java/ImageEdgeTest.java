@@ -340,7 +340,13 @@ public final class ImageEdgeTest {
     private static void nothingIsKept() {
         SilentReel x = Shot.rich();
         Check.due("has(7) ahead", x.has(7), 2);
-        Check.due("on()", onBy(x, proved(0, 2, 0, 0, 2, 1, 0)), true);
+        Check.due("has(5) ahead", x.has(5), 2);
+        Check.due("where(0, 0) ahead", x.where(0, 0) == 0, x.person(0, 0) == 0);
+        x.self(1, 0);
+        Check.due("on()", onBy(x, proved(0, 2, 1, 0, 2, 1, 0)), true);
+        Check.due("has(5)", x.has(5), 1);
+        Check.due("where(0, 0)", x.where(0, 0), 1);
+        Check.due("where(1, 0)", x.where(1, 0), 2);
         Check.due("has(7)", x.has(7), 0);
         Check.due("kept(0, 0)", x.kept(0, 0), -1);
         Check.due("has(9)", x.has(9), 0);

@@ -267,6 +267,15 @@ public final class TapeEdgeTest {
         Check.due("person(0, 0) again", x.person(0, 0), 1);
         Check.due("person(0, 2) again", x.person(0, 2), 1);
         Check.due("undo() again", x.undo(), false);
+        Check.due("where(0, 1) of it", x.where(0, 1), 0);
+        for (int k = 0; k < 2; k++) {
+            Check.due("a town with less", Check.town(x, "place a;place b;person p at b kind 1;"), 3);
+            Check.due("has(1) of less", x.has(1), 0);
+            Check.due("has(4) of less", x.has(4), 0);
+            Check.due("has(5) of less", x.has(5), 0);
+            Check.due("far(0, 1) of less", x.far(0, 1), -1);
+            Check.due("where(0, 1) of less", x.where(0, 1), 1);
+        }
     }
 
     /** "the seed stays" */

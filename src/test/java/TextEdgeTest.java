@@ -31,6 +31,7 @@ public final class TextEdgeTest {
         wholeTape();
         sevenOpen();
         notUntilItsFactEnds();
+        inGoesAlone();
         firstAlongTheText();
         Check.finish();
     }
@@ -46,6 +47,8 @@ public final class TextEdgeTest {
         SilentReel x = Texts.good(Texts.TWELVE + "person p at g kind 1;watch p;frame 1 g 1;" + "rain 1;".repeat(56)
                 + "stays all;goes 1;", 80);
         Check.due("has(1) of 80 statements", x.has(1), 12);
+        Check.due("far(0, 0) of 80 statements", x.far(0, 0), 0);
+        Check.due("far(2, 6) of 80 statements", x.far(2, 6), 2);
         Check.due("where(0, 8) of 80 statements", x.where(0, 8), 6);
     }
 
@@ -211,8 +214,22 @@ public final class TextEdgeTest {
             Check.due("chance(1) of " + rains[k], Check.of("place a;frame 1 a 0;" + rains[k]).chance(1), due[k]);
         }
         SilentReel x = Check.of("place a;frame 1 a 0;rain 100;");
+        for (int k = 1; k <= 3; k++) {
+            Check.town(x, "place a;frame 1 a 0;");
+            Check.due("chance(1) without rain, " + k + " behind a town with it", x.chance(1), 0);
+        }
+        // a seed whose draw is 0, which is below 1 and not below 0
+        int seed = 0;
+        while (!drawsNought(seed)) {
+            seed++;
+        }
+        x.seed(seed);
         Check.town(x, "place a;frame 1 a 0;");
-        Check.due("chance(1) without rain behind a town with it", x.chance(1), 0);
+        Check.due("chance(1) without rain by a draw of 0", x.chance(1), 0);
+    }
+
+    private static boolean drawsNought(int seed) {
+        return ((1103515245L * seed + 12345L) % (1L << 31)) / 64 % 100 == 0;
     }
 
     /** "NAMES: 1 to 6 letters"; "a 7th letter .. at itself, whatever may stand there" */
@@ -257,6 +274,8 @@ public final class TextEdgeTest {
         Texts.marked("stays 1=0000|1;", 1);
         Texts.marked("rain 0000|1;", 1);
         Texts.marked("rain 9999|9;", 1);
+        Texts.marked("rain 9999|0;", 1);
+        Texts.marked("place a;frame 9999|0 a 1;", 1);
         Texts.marked("place a;person p at a kind 0000|1;", 1);
         Texts.marked("place a;frame 0000|1 a 1;", 1);
         Texts.marked("place a;frame 1 a 0000|1;", 1);
@@ -471,7 +490,22 @@ public final class TextEdgeTest {
         Texts.good("goes " + "(1)+".repeat(20) + "(((((((1)))))))*(((((((1)))))));", 1);
         Texts.good("goes min(((((((1)))))),1);", 1);
         Texts.marked("goes min(((((((1)))))),((((((|(1", 5);
+        Texts.marked("goes if([[[[[[all]]]]]],((((((|(1", 5);
         Texts.marked("goes if([[[[[[all]]]]]],((((((1)))))),((((((|(1", 5);
+    }
+
+    /** "in goes: there; far" */
+    private static void inGoesAlone() {
+        Texts.good("goes there+far;", 1);
+        Texts.good("goes if(there<far,min(there,far),(there));stays all;", 2);
+        Texts.good("stays kind+step+day+here=shown;goes kind+step+day+here+shown;", 2);
+        Texts.marked("stays |there=1;", 1);
+        Texts.marked("stays |far=1;", 1);
+        Texts.marked("stays 1=|far;", 1);
+        Texts.marked("goes far;stays 1=|there;", 1);
+        Texts.marked("stays 1=if(1=|far,1,2);", 1);
+        Texts.marked("stays 1=min(1,(|there));", 1);
+        Texts.marked("stays [not 1<|far];", 1);
     }
 
     /** "FAULTS, the first along the text" */
