@@ -417,11 +417,12 @@ public final class ImageEdgeTest {
         Check.due("status(0) of 80 feeds", full.status(0), 0);
         full.feed(0, 0, 0, 0, 0);
         Check.due("status(0) of the 81st", full.status(0), 1);
+        // "An object is used for at most 512 calls after it has been made": this is the 512th
         SilentReel many = new SilentReel();
-        for (int k = 1; k <= 500; k++) {
+        for (int k = 1; k <= 511; k++) {
             many.undo();
         }
-        Check.due("status(4) of 500", many.status(4), 500);
+        Check.due("status(4) of 511", many.status(4), 511);
     }
 
     private static void counted(SilentReel x, int[] due, int which) {
