@@ -1,6 +1,41 @@
+import java.util.ArrayList;
+import java.util.List;
+
 /** Terms I: each limit of a text, at it and one beyond it. Each method is of one sentence, which it quotes. */
 public final class TextEdgeTest {
     private static final String AHEAD = "place a;place b;road a to b;person p at a kind 1;";
+    private static final String NAME = "zz";
+    private static final String NUMBER = "7";
+    private static final String SUM = "7 ( kind step day here shown min max if ";
+    private static final String FAR = "there far ";
+    private static final String TEST = "not [ all " + SUM;
+    private static final String MORE = "+ - * / % ";
+    private static final String COMPARED = MORE + "< > = ";
+    /** What stands ahead, and all that may come next. */
+    private static final String[][] NEXT = {
+        {"", "place road person watch frame stays goes rain"},
+        {"rain 1 ; ", "place road person watch frame stays goes rain"},
+        {"place ", NAME}, {"place a ", ";"},
+        {"road ", NAME}, {"place a;road a ", "to"}, {"place a;road a to ", NAME}, {"place a;place b;road a to b ", ";"},
+        {"person ", NAME}, {"person p ", "at"}, {"person p at ", NAME}, {"place a;person p at a ", "kind"},
+        {"place a;person p at a kind ", NUMBER}, {"place a;person p at a kind 1 ", ";"},
+        {"watch ", NAME}, {"place a;person p at a kind 1;watch p ", ";"},
+        {"frame ", NUMBER}, {"frame 1 ", NAME}, {"place a;frame 1 a ", NUMBER}, {"place a;frame 1 a 1 ", ";"},
+        {"rain ", NUMBER}, {"rain 1 ", ";"},
+        {"stays ", TEST}, {"stays not ", TEST}, {"stays [ ", TEST}, {"stays all and ", TEST}, {"stays all or ", TEST},
+        {"stays all ", "and or ;"}, {"stays not all ", "and or ;"}, {"stays [ all ", "and or ]"},
+        {"stays [ all ] ", "and or ;"}, {"stays 1 ", COMPARED}, {"stays kind ", COMPARED}, {"stays not 1 ", COMPARED},
+        {"stays ( 1 ) ", COMPARED}, {"stays ( 1 ", MORE + ")"}, {"stays 1 < ", SUM}, {"stays 1 = ", SUM},
+        {"stays 1 > 2 ", MORE + "and or ;"}, {"stays [ 1 < 2 ", MORE + "and or ]"}, {"stays 1 + ", SUM},
+        {"goes ", SUM + FAR}, {"goes 1 + ", SUM + FAR}, {"goes 1 - ", SUM + FAR}, {"goes 1 * ", SUM + FAR},
+        {"goes 1 / ", SUM + FAR}, {"goes 1 % ", SUM + FAR}, {"goes ( ", SUM + FAR}, {"goes 1 ", MORE + ";"},
+        {"goes far ", MORE + ";"}, {"goes ( 1 ", MORE + ")"}, {"goes ( 1 ) ", MORE + ";"},
+        {"goes min ", "("}, {"goes max ", "("}, {"goes min ( ", SUM + FAR}, {"goes max ( 1 ", MORE + ","},
+        {"goes min ( 1 , ", SUM + FAR}, {"goes max ( 1 , 2 ", MORE + ")"}, {"goes min ( 1 , 2 ) ", MORE + ";"},
+        {"goes if ", "("}, {"goes if ( ", TEST + FAR}, {"goes if ( all ", "and or ,"}, {"goes if ( 1 ", COMPARED},
+        {"goes if ( 1 < ", SUM + FAR}, {"goes if ( 1 < 2 ", MORE + "and or ,"}, {"goes if ( [ all ", "and or ]"},
+        {"goes if ( all , ", SUM + FAR}, {"goes if ( all , 1 ", MORE + ","}, {"goes if ( all , 1 , ", SUM + FAR},
+        {"goes if ( all , 1 , 2 ", MORE + ")"}, {"goes if ( all , 1 , 2 ) ", MORE + ";"}};
 
     public static void main(String[] args) {
         eightyStatements();
@@ -32,6 +67,7 @@ public final class TextEdgeTest {
         sevenOpen();
         notUntilItsFactEnds();
         inGoesAlone();
+        noTownGoesOn();
         firstAlongTheText();
         Check.finish();
     }
@@ -506,6 +542,29 @@ public final class TextEdgeTest {
         Texts.marked("stays 1=if(1=|far,1,2);", 1);
         Texts.marked("stays 1=min(1,(|there));", 1);
         Texts.marked("stays [not 1<|far];", 1);
+    }
+
+    /** "1 the first byte with which no TOWN goes on (words and numbers whole, at their first byte" */
+    private static void noTownGoesOn() {
+        List<String> all = new ArrayList<>(List.of(Texts.OWN));
+        all.add(NAME);
+        all.add(NUMBER);
+        for (int octet = 0; octet < 256; octet++) {
+            char sign = (char) octet;
+            if (sign != ' ' && sign != '\n' && !(sign >= 'a' && sign <= 'z') && !(sign >= '0' && sign <= '9')) {
+                all.add("" + sign);
+            }
+        }
+        for (String[] next : NEXT) {
+            List<String> may = List.of(next[1].trim().split(" "));
+            for (String token : all) {
+                SilentReel x = new SilentReel();
+                String text = next[0] + token;
+                Check.town(x, text);
+                Check.due("fault 1 at " + next[0].length() + " of " + text,
+                        x.fault(0) == 1 && x.fault(1) == next[0].length(), !may.contains(token));
+            }
+        }
     }
 
     /** "FAULTS, the first along the text" */
