@@ -15,6 +15,7 @@ public final class TapeEdgeTest {
         tapeGoes();
         allStaysWithAFault();
         asAtFirst();
+        rulesOfOldTowns();
         seedStays();
         imageAndRefusalsStay();
         faultAheadOfAny();
@@ -275,6 +276,32 @@ public final class TapeEdgeTest {
             Check.due("has(5) of less", x.has(5), 0);
             Check.due("far(0, 1) of less", x.far(0, 1), -1);
             Check.due("where(0, 1) of less", x.where(0, 1), 1);
+        }
+    }
+
+    /** A longer test and a longer sum were told some towns ahead: of those nothing counts. */
+    private static void rulesOfOldTowns() {
+        String two = "place a;place b;road a to b;person p at a kind 1;";
+        SilentReel x = new SilentReel();
+        for (int k = 0; k < 2; k++) {
+            Check.town(x, two + "stays 1=1 and not all or 2=3;goes 1-2*far+if(all,0-far,far);");
+            Check.due("where(0, 1) by the longer ones", x.where(0, 1), 0);
+        }
+        for (int k = 0; k < 2; k++) {
+            Check.town(x, two + "stays all;goes far;");
+            Check.due("where(0, 1) by a shorter test", x.where(0, 1), 0);
+        }
+        for (int k = 0; k < 2; k++) {
+            Check.town(x, two + "goes far;");
+            Check.due("where(0, 1) by a shorter sum", x.where(0, 1), 1);
+        }
+        Check.due("a town with a fault", Check.town(x, two + "stays all;goes 0;goes 1;"), -1);
+        Check.due("where(0, 8) by the rules that stay", x.where(0, 8), 1);
+        for (int k = 0; k < 2; k++) {
+            Check.town(x, two + "stays not all;");
+            Check.due("where(0, 8) without a sum", x.where(0, 8), 0);
+            x.send(0, 1);
+            Check.due("where(0, 8) without a sum, from b", x.where(0, 8), 0);
         }
     }
 
