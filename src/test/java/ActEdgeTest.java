@@ -21,6 +21,7 @@ public final class ActEdgeTest {
         keptLessTheCut();
         showAtTheLimits();
         showRefused();
+        showOfBoth();
         showOfEight();
         cutAtTheLimits();
         cutRefused();
@@ -336,6 +337,22 @@ public final class ActEdgeTest {
         Check.due("show(8, 2, 6) that can be", Shot.rich().show(8, 2, 6), true);
     }
 
+    /** "when one of that STEP and PLACE is": not one whose place is that step, and whose step is that place */
+    private static void showOfBoth() {
+        SilentReel x = Check.of(Texts.SEVEN + "frame 1 c 3;");
+        Check.due("show(2, 1, 4)", x.show(2, 1, 4), true);
+        Check.due("show(1, 1, 5)", x.show(1, 1, 5), true);
+        Check.due("show(2, 2, 6)", x.show(2, 2, 6), true);
+        int[][] due = {{1, 2, 3}, {2, 1, 4}, {1, 1, 5}, {2, 2, 6}};
+        Check.due("has(4)", x.has(4), due.length);
+        for (int k = 0; k < due.length; k++) {
+            for (int what = 0; what <= 2; what++) {
+                Check.due("frame(" + k + ", " + what + ")", x.frame(k, what), due[k][what]);
+            }
+            Check.due("shown already", x.show(due[k][0], due[k][1], 0), false);
+        }
+    }
+
     /** "8 are" */
     private static void showOfEight() {
         SilentReel x = Check.of(TWO);
@@ -430,6 +447,7 @@ public final class ActEdgeTest {
         int there = Shot.rich().person(1, 0);
         refused("send(1, " + there + "): he is there", 3, 0, x -> x.send(1, there) ? 1 : 0);
         refused("send(2, 0)", 3, 0, x -> x.send(2, 0) ? 1 : 0);
+        refused("send(2, 1): there are more places than people", 3, 0, x -> x.send(2, 1) ? 1 : 0);
         refused("send(0, 3)", 3, 0, x -> x.send(0, 3) ? 1 : 0);
         refused("send(2, 3)", 3, 0, x -> x.send(2, 3) ? 1 : 0);
         for (int end : Shot.ENDS) {
@@ -446,6 +464,11 @@ public final class ActEdgeTest {
         Check.due("send(0, 7)", x.send(0, 7), false);
         Check.due("send(0, 0)", x.send(0, 0), true);
         Check.due("has(9)", x.has(9), 2);
+        SilentReel six = Check.of(Texts.SIX + "place b;stays all;");
+        for (int person = 0; person < 6; person++) {
+            Check.due("send(" + person + ", 1): there are more people than places", six.send(person, 1), true);
+            Check.due("who(1, 8)", six.who(1, 8), (2 << person) - 1);
+        }
         SilentReel gone = Check.of(TWO + "goes far;");
         gone.days(1);
         Check.due("send(0, 1): a day has brought him there", gone.send(0, 1), false);

@@ -17,6 +17,7 @@ public final class AskEdgeTest {
         frameOfNoneSuch();
         frameTrueOrNot();
         frameOfNobody();
+        frameBehindItsStep();
         whereOfNoneSuch();
         whoOfNoneSuch();
         agreesWithoutFrames();
@@ -24,6 +25,7 @@ public final class AskEdgeTest {
         selfFromNoughtToSix();
         selfOfANinth();
         selfInPlaceOfWhatIsShown();
+        selfAmongOthers();
         cutsOfNoneAndAll();
         cutsOfLikeOnes();
         crowdOfNoneAndAll();
@@ -35,9 +37,11 @@ public final class AskEdgeTest {
         laterOfNoneSuch();
         laterBeyondTheLastDay();
         meetOfForty();
+        meetBehindOneStep();
         meetOfNoneSuch();
         meetBeyondTheLastDay();
         roundOfOneAtLeast();
+        roundOfAll();
         roundOfForty();
         roundBeyondTheLastDay();
         seeOneToSixteen();
@@ -45,8 +49,10 @@ public final class AskEdgeTest {
         seeRefused();
         beganOfNoneSuch();
         beganByTheLatest();
+        beganByAllRows();
         beganInNone();
         tellingOfLikeOnes();
+        tellingInEachPlace();
         noQuestionLeavesATrace();
         Check.finish();
     }
@@ -222,6 +228,20 @@ public final class AskEdgeTest {
         Check.due("frame(1, 3) of nobody", x.frame(1, 3), 1);
     }
 
+    /** "who is there behind that STEP": neither ahead of it nor behind another */
+    private static void frameBehindItsStep() {
+        for (int step = 1; step <= 8; step++) {
+            SilentReel x = Check.of(ROW + "person p at b kind 1;person q at c kind 2;stays kind=2;"
+                    + "goes if(step=" + step + ",far*2,0-far);");
+            for (int k = 0; k < 8; k++) {
+                x.show(8 - k, 0, 2);
+            }
+            for (int k = 0; k < 8; k++) {
+                Check.due("frame(" + k + ", 4) of one who comes at " + step, x.frame(k, 4), 8 - k == step ? 1 : 0);
+            }
+        }
+    }
+
     // ---- promises 11 to 13
 
     /** "a STEP (0 .. 8; 0: now)" */
@@ -303,6 +323,17 @@ public final class AskEdgeTest {
         Check.due("where(0, 1) by 5", x.where(0, 1), 1);
         Shot.asked("self(1, 1)", x, 3, y -> y.self(1, 1));
         Check.due("frame(0, 2) behind it", x.frame(0, 2), 5);
+    }
+
+    /** "in place of what is shown there": what is shown behind it in the reel is shown as ever */
+    private static void selfAmongOthers() {
+        String text = TWO + "person p at a kind 1;watch p;stays step>1;goes if(shown=1,5,0-far);";
+        SilentReel x = Check.of(text + "frame 2 b 0;frame 1 b 1;frame 3 a 1;");
+        Check.due("where(0, 1) by a frame behind it", x.where(0, 1), 1);
+        Check.due("self(2, 1)", x.self(2, 1), 2);
+        Check.due("self(2, 0)", x.self(2, 0), 1);
+        Check.due("self(1, 1)", x.self(1, 1), 3);
+        Check.due("self(3, 0)", x.self(3, 0), 1);
     }
 
     // ---- promises 15 and 16
@@ -442,6 +473,19 @@ public final class AskEdgeTest {
         Check.due("meet(0, 1): now does not count", apart.meet(0, 1), -1);
     }
 
+    /** "in one PLACE behind a STEP": not where the other one was behind another step */
+    private static void meetBehindOneStep() {
+        SilentReel x = Check.of(TWO + "person p at a kind 1;person q at b kind 2;person r at a kind 3;"
+                + "goes if(step%2=1,far,0-far);");
+        Check.due("where(0, 1)", x.where(0, 1), 1);
+        Check.due("where(1, 1)", x.where(1, 1), 0);
+        Check.due("meet(0, 1) of two who change places", x.meet(0, 1), -1);
+        Check.due("meet(1, 0) of two who change places", x.meet(1, 0), -1);
+        Check.due("meet(1, 2) of two who change places", x.meet(1, 2), -1);
+        Check.due("meet(2, 1) of two who change places", x.meet(2, 1), -1);
+        Check.due("meet(2, 0) of two who go together", x.meet(2, 0), 1);
+    }
+
     /** "NONE when in none, there are none such, or they are one" */
     private static void meetOfNoneSuch() {
         none("meet", 2, 2, x -> x::meet);
@@ -474,6 +518,19 @@ public final class AskEdgeTest {
         Check.due("round() to and fro", Check.of(TWO + "person p at a kind 1;goes far;").round(), 2);
         Check.due("round() of all, not of one", Check.of(TWO + "person p at a kind 1;person q at b kind 2;"
                 + "stays kind=2;goes far;").round(), 2);
+    }
+
+    /** "all people are first where they are now": the sixth too, though there are fewer places */
+    private static void roundOfAll() {
+        for (int goer = 0; goer < 6; goer++) {
+            StringBuilder text = new StringBuilder(TWO + "stays kind=1;goes far;");
+            for (int person = 0; person < 6; person++) {
+                text.append("person p").append((char) ('a' + person)).append(" at a kind ")
+                        .append(person == goer ? 2 : 1).append(';');
+            }
+            Check.due("round() when person " + goer + " goes", Check.of(text.toString()).round(), 2);
+        }
+        Check.due("round() of one in seven places", Check.of(Texts.SEVEN + "person p at g kind 1;").round(), 1);
     }
 
     /** "NONE when it is not so behind any of 40" */
@@ -605,6 +662,26 @@ public final class AskEdgeTest {
         Check.due("began(0, 0) of the seventh", seven.began(0, 0), 64);
     }
 
+    /** "by which all is so": each row is of its own step and place */
+    private static void beganByAllRows() {
+        SilentReel x = Check.of(ROW + "person p at a kind 1;person q at c kind 2;stays kind=2;"
+                + "goes if(step%2=1,far,0-far);");
+        seen(x, 1, 1, 1, 1, 2, 0, 1);
+        seen(x, 1, 2, 0, 1, 1, 1, 1);
+        seen(x, 0, 1, 1, 1, 2, 1, 1);
+        seen(x, 2, 1, 0, 1, 2, 1, 1);
+        seen(x, 0, 1, 0, 1, 2, 0, 1);
+        seen(x, 4, 1, 1, 1, 2, 2, 2, 8, 0, 0);
+        seen(x, 0, 1, 1, 1, 2, 2, 2, 8, 0, 1);
+        seen(x, 1, 1, 1, 1, 2, 2, 1, 8, 0, 1);
+    }
+
+    private static void seen(SilentReel x, int due, int... rows) {
+        Check.put(x, rows);
+        x.see();
+        Check.due("began(0, 0) by " + java.util.Arrays.toString(rows), x.began(0, 0), due);
+    }
+
     /** "TELLING .. NONE without any" */
     private static void beganInNone() {
         SilentReel x = Check.of(ROW + "person p at a kind 1;stays all;");
@@ -635,6 +712,18 @@ public final class AskEdgeTest {
         // q, who goes where p is, tells it behind step 8 alone, in b
         telling(Check.of(ROW + "person p at a kind 1;person q at b kind 2;stays kind=1 or step<8;goes there;"),
                 7, 8, 1, 1);
+    }
+
+    /** "TELLING is the STEP and the PLACE": two in one place draw p to it from the one next to it */
+    private static void tellingInEachPlace() {
+        for (int place = 1; place <= 6; place++) {
+            String name = "abcdefg".substring(place, place + 1);
+            String next = "abcdefg".substring(place - 1, place);
+            String text = Texts.SEVEN + "road " + next + " to " + name + ";person p at a kind 1;person q at " + name
+                    + " kind 2;person r at " + name + " kind 2;goes there;";
+            telling(Check.of(text), 127, 1, place, 5);
+            telling(Check.of(text + "stays step<8;"), 127, 8, place, 5);
+        }
     }
 
     private static void telling(SilentReel x, int... due) {

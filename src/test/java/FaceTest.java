@@ -66,6 +66,10 @@ public final class FaceTest {
         return text.append(")").toString();
     }
 
+    private static boolean isOfTheFace(String name) {
+        return FACE.contains(" " + name + "(");
+    }
+
     private static boolean isSound(Field field) {
         int modifiers = field.getModifiers();
         return !Modifier.isStatic(modifiers) || Modifier.isFinal(modifiers);
@@ -85,6 +89,8 @@ public final class FaceTest {
             Check.due(one + " has few fields", fields <= 20, true);
             for (Method method : one.getDeclaredMethods()) {
                 Check.due(method + " takes few", method.getParameterCount() <= 7, true);
+                Check.due(method + " is private and has a public name",
+                        Modifier.isPrivate(method.getModifiers()) && isOfTheFace(method.getName()), false);
             }
         }
     }

@@ -114,6 +114,11 @@ public final class TextEdgeTest {
         Texts.marked(Texts.SEVEN + "rain 1;|place", 6);
         Texts.marked(Texts.SEVEN + "|place a;", 6);
         Texts.marked(Texts.SEVEN + "|place to;", 6);
+        SilentReel late = Texts.good("place a;place b;place c;place d;place e;road a to b;road a to c;road a to d;"
+                + "road a to e;road b to c;road b to d;road b to e;road c to d;person p at e kind 1;place f;place g;", 16);
+        Check.due("has(0) behind eight roads", late.has(0), 7);
+        Check.due("letter(0, 6, 0) behind eight roads", late.letter(0, 6, 0), 7);
+        Check.due("far(6, 6) behind eight roads", late.far(6, 6), 0);
     }
 
     /** "12 ROADS" */
@@ -203,6 +208,10 @@ public final class TextEdgeTest {
     /** "not told of both already"; "a FRAME told already: at its PLACE" */
     private static void framesOfBoth() {
         Texts.good("place a;place b;frame 1 a 1;frame 1 b 1;frame 2 a 1;frame 2 b 1;", 6);
+        SilentReel x = Texts.good("place a;place b;place c;frame 1 c 3;frame 2 b 4;", 5);
+        Check.due("has(4) of both the other way", x.has(4), 2);
+        Check.due("frame(0, 2) of both the other way", x.frame(0, 2), 3);
+        Check.due("frame(1, 2) of both the other way", x.frame(1, 2), 4);
         Texts.marked("place a;place b;frame 1 a 1;frame 1 |a 1;", 3);
         Texts.marked("place a;place b;frame 1 a 1;frame 1 |a 2;", 3);
         Texts.marked("place a;place b;frame 1 a 1;frame 1 |a 7;", 3);
@@ -318,6 +327,11 @@ public final class TextEdgeTest {
         Texts.marked("0000|1", 1);
         Texts.marked("place 0000|1;", 1);
         Texts.marked("place a 0000|1;", 1);
+        Texts.marked("watch 0000|1;", 1);
+        Texts.marked("road 0000|1 to a;", 1);
+        Texts.marked("place a;road a to 0000|1;", 1);
+        Texts.marked("place a;person p at 0000|1;", 1);
+        Texts.marked("place a;frame 1 0000|1 1;", 1);
         Texts.marked("goes 1 0000|1;", 1);
         Texts.marked("stays all 0000|1;", 1);
     }
@@ -410,6 +424,8 @@ public final class TextEdgeTest {
     /** "words and numbers side by side need one" */
     private static void needOne() {
         Texts.marked("rain|1;", 1);
+        Texts.marked("place a|59", 1);
+        Texts.marked("goes kind|43 1;", 1);
         Texts.marked("place a;frame|1 a 1;", 1);
         Texts.marked("place a;frame 1|a 1;", 1);
         Texts.marked("place a;frame 1 a|1;", 1);
@@ -560,9 +576,11 @@ public final class TextEdgeTest {
             for (String token : all) {
                 SilentReel x = new SilentReel();
                 String text = next[0] + token;
-                Check.town(x, text);
+                boolean told = Check.town(x, text) != SilentReel.NONE;
                 Check.due("fault 1 at " + next[0].length() + " of " + text,
                         x.fault(0) == 1 && x.fault(1) == next[0].length(), !may.contains(token));
+                Check.due("a fault or a town of " + text, x.fault(0) == 0, told);
+                Check.due("status(1) of " + text, x.status(1), told ? 0 : 1);
             }
         }
     }
